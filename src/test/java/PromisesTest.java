@@ -304,6 +304,11 @@ final class PromisesTest {
         due.is("7: such a name in both", m.match(), true);
         m.name(1, 5, 2);
         due.is("7: a name once and twice", m.match(), false);
+        NetMatcher single = turnedNames();
+        single.add(0, 0, nets(3, 4, 4));
+        single.add(1, 0, nets(5, 3, 3));
+        due.is("7: a single match", single.match(), true);
+        due.is("7: no other match", single.matches(), 1);
     }
 
     private static void promise7MatchCountsEqualDevices() {
